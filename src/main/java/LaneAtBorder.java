@@ -1,6 +1,5 @@
 /**
- * Lanes at a border, with cars one behind the other. The promises that the comments name by number
- * stand in the project's document.
+ * Lanes at a border, with cars one behind the other. Words in capitals are the document's.
  *
  * <p>All rows are made by the constructors and used again, since the objects of a whole run share
  * one room.
@@ -56,6 +55,7 @@ public final class LaneAtBorder {
   private final int[] ends = new int[MOST_LANES];
   private final int[] line = new int[MOST_LANES * MOST_CARS];
   private final int[] usable = new int[MOST_LANES];
+  private final int[] told = new int[SORTS];
   private final int[] swing = new int[MOST_TIMES + 1];
 
   public LaneAtBorder() {
@@ -146,11 +146,11 @@ public final class LaneAtBorder {
   // ---- which lane
 
   public int which(int sort) {
-    return isSort(sort) ? now.seemsLeast() : NO_SUCH;
+    return isSort(sort) ? now.seemingLane() : NO_SUCH;
   }
 
   public int best(int sort) {
-    return isSort(sort) ? now.isLeast(sort) : NO_SUCH;
+    return isSort(sort) ? now.quickestLane(sort) : NO_SUCH;
   }
 
   public int regret(int sort) {
@@ -297,7 +297,7 @@ public final class LaneAtBorder {
       if (mind.leastTime(row.values[c]) > n && mind.addLane(NEW, 0)) {
         opened++;
       }
-      int lane = mind.seemsLeast();
+      int lane = mind.seemingLane();
       if (lane >= 0) {
         mind.queues[lane].comeIn(row.values[c]);
       }
@@ -369,7 +369,7 @@ public final class LaneAtBorder {
       seed = nextSeed(seed);
       mind.goBy(draw(seed, 4));
       seed = nextSeed(seed);
-      int lane = mind.seemsLeast();
+      int lane = mind.seemingLane();
       if (lane >= 0) {
         mind.queues[lane].comeIn(draw(seed, SORTS));
         came++;
@@ -586,7 +586,7 @@ public final class LaneAtBorder {
   // ---- what is found out by trying
 
   private int regretTimes(int sort, int pence) {
-    int lane = now.seemsLeast();
+    int lane = now.seemingLane();
     if (lane < 0) {
       return NONE;
     }
@@ -602,10 +602,10 @@ public final class LaneAtBorder {
   /** In mind: the LANE that a comer goes to by a rule; below 0, if there is none for it. */
   private int chosen(int rule, int number, int sort) {
     if (rule == RULE_WHICH) {
-      return mind.seemsLeast();
+      return mind.seemingLane();
     }
     if (rule == RULE_BEST) {
-      return mind.isLeast(sort);
+      return mind.quickestLane(sort);
     }
     if (mind.lanes == 0) {
       return NONE;
@@ -678,26 +678,32 @@ public final class LaneAtBorder {
 
   /** The TIMES of a ROW of SORTS, if each SORT goes to the LANE that a way tells it. */
   private int toldSum(int way, Shelf row) {
+    tell(way);
     for (int lane = 0; lane < now.lanes; lane++) {
       ends[lane] = 0;
     }
     int sum = 0;
     for (int c = 0; c < row.size; c++) {
       int sort = row.values[c];
-      sum += goTo(toldLane(way, sort), sort);
+      sum += goTo(told[sort], sort);
     }
     return sum;
   }
 
-  private int toldLane(int way, int sort) {
-    int step = power(now.lanes, sort);
-    return step > 0 ? way / step % now.lanes : 0;
+  /** Each SORT is told a LANE: the digits of a way, to the base of LANES, SORT 0 the lowest. */
+  private void tell(int way) {
+    int rest = way;
+    for (int sort = 0; sort < SORTS && now.lanes > 0; sort++) {
+      told[sort] = rest % now.lanes;
+      rest /= now.lanes;
+    }
   }
 
   private int asDigits(int way) {
+    tell(way);
     int digits = 0;
     for (int sort = SORTS - 1; sort >= 0; sort--) {
-      digits = 10 * digits + toldLane(way, sort);
+      digits = 10 * digits + told[sort];
     }
     return digits;
   }
@@ -713,8 +719,8 @@ public final class LaneAtBorder {
   private void swingFrom(int d, int g, int h) {
     swing[0] = d;
     for (int t = 1; t <= MOST_TIMES; t++) {
-      int told = swing[Math.max(0, t - 1 - g)];
-      int next = swing[t - 1] - 2 * (told * h / 10);
+      int late = swing[Math.max(0, t - 1 - g)];
+      int next = swing[t - 1] - 2 * (late * h / 10);
       swing[t] = Math.max(-MOST_SWING, Math.min(MOST_SWING, next));
     }
   }
@@ -992,7 +998,7 @@ public final class LaneAtBorder {
     }
 
     /** WHICH. */
-    int seemsLeast() {
+    int seemingLane() {
       int found = NONE;
       int least = Integer.MAX_VALUE;
       for (int lane = 0; lane < lanes; lane++) {
@@ -1006,7 +1012,7 @@ public final class LaneAtBorder {
     }
 
     /** BEST. */
-    int isLeast(int sort) {
+    int quickestLane(int sort) {
       int found = NONE;
       int least = Integer.MAX_VALUE;
       for (int lane = 0; lane < lanes; lane++) {
@@ -1021,7 +1027,7 @@ public final class LaneAtBorder {
 
     /** TIME in BEST; without end, if there is none, so that it is above all that is told. */
     int leastTime(int sort) {
-      int lane = isLeast(sort);
+      int lane = quickestLane(sort);
       return lane >= 0 ? queues[lane].timeOfNext(sort) : Integer.MAX_VALUE;
     }
 
@@ -1089,8 +1095,9 @@ public final class LaneAtBorder {
       int found = NONE;
       int greatest = above;
       for (int to = 0; to < lanes; to++) {
-        if (to != lane && queues[to].mayBeChosen() && gain(lane, place, to) > greatest) {
-          greatest = gain(lane, place, to);
+        int gain = gain(lane, place, to);
+        if (to != lane && queues[to].mayBeChosen() && gain > greatest) {
+          greatest = gain;
           found = to;
         }
       }

@@ -83,6 +83,7 @@ public final class ChangesTest {
     Check.due("a later lane", Check.of("l0000;l00;l00000;").paysMost(0), 221);
     Check.due("none is open with room", Check.of("l0033333333;l50;").paysMost(0), -4);
     Check.due("the first ones stay", Check.of("l003;l10;").paysMost(0), -4);
+    Check.due("to the first lane", Check.of("l00;l0000;").paysMost(0), 110);
     Check.due("no lanes", new LaneAtBorder().paysMost(0), -4);
     Check.due("no gain is not above 0", Check.of("l0000;l000;").paysMost(0), -4);
   }
@@ -94,11 +95,15 @@ public final class ChangesTest {
     Check.due("rests(0, 1)", x.rests(0, 1), 2 + 5 + 4);
     Check.due("rests(6, 0)", x.rests(6, 0), 0);
     Check.due("rests(6, 1)", x.rests(6, 1), 17);
+    Check.due("rests(99, 0)", x.rests(99, 0), 0);
     Check.due("rests(-1, 0)", x.rests(-1, 0), -1);
     Check.due("rests(100, 0)", x.rests(100, 0), -1);
     Check.due("rests(0, -1)", x.rests(0, -1), -1);
     Check.due("rests(0, 2)", x.rests(0, 2), -1);
     Check.due("nothing changed", Check.everything(x), before);
+    LaneAtBorder back = Check.of("l10;l00012;");
+    Check.due("to the first lane", back.rests(0, 0), 1);
+    Check.due("to the first lane", back.rests(0, 1), 2 + 5 + 4);
     LaneAtBorder many = Check.of("l0000000000;l00;");
     Check.due("until none gains more", many.rests(0, 0), 4);
     Check.due("all then", many.rests(0, 1), 2 * (2 + 4 + 6 + 8));
@@ -108,6 +113,7 @@ public final class ChangesTest {
 
   private static void least() {
     Check.due("both go to the quick one", Check.of("l00012;l10;").least(), 2 + 2 + 6);
+    Check.due("one lane", Check.of("l00012;").least(), 2 + 5 + 10);
     Check.due("six cars, three lanes", Check.of("l000000000;l00;l00;").least(), 24);
     Check.due("seven cars", Check.of("l0000000000;l00;l00;").least(), -4);
     Check.due("seven cars of several lanes", Check.of("l0000000;l000000;l00;").least(), -4);

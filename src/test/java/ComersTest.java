@@ -62,6 +62,10 @@ public final class ComersTest {
     Check.due("not above 5 lanes", x.opens(1, 0, 0), 4);
     Check.sorts(x, 1, "333");
     Check.due("nothing changed", Check.everything(x), before);
+    LaneAtBorder waits = Check.of("l003;");
+    Check.sorts(waits, 1, "0");
+    Check.due("no minutes ahead of the first", waits.opens(1, 9, 5), 1);
+    Check.due("no minutes ahead of the first", waits.comers(1, 9, 0, 1), 10);
     LaneAtBorder shut = Check.of("l50;");
     Check.sorts(shut, 1, "0");
     Check.due("none is open with room", shut.opens(1, 0, 99), 1);
@@ -152,6 +156,10 @@ public final class ComersTest {
     Check.due("opens, n below 0", x.opens(1, 0, -1), -1);
     Check.due("bySorts, what below 0", x.bySorts(1, -1), -1);
     Check.due("nothing changed", Check.everything(x), before);
+    Check.numbers(x, 6, 0, 4, 0);
+    Check.due("the first is no sort", x.comers(6, 0, 0, 0), -13);
+    x.row(6, 0, 0);
+    Check.due("what stood in another row there does not matter", x.comers(6, 0, 0, 0), 0);
     LaneAtBorder none = new LaneAtBorder();
     Check.due("of the row ahead of no lanes", none.bySorts(1, 0), -11);
   }

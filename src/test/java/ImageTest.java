@@ -39,6 +39,15 @@ public final class ImageTest {
     Check.read(x, "l00012;m3;");
     Check.due("restore", x.restore(), 0);
     Check.due("no lanes", Check.lanes(x), "0 0 0 0 0 0 ");
+    Check.due("all", x.all(), 0);
+    Check.due("which", x.which(0), -4);
+    Check.due("best", x.best(0), -4);
+    Check.due("least", x.least(), 0);
+    Check.due("oneLine", x.oneLine(), -4);
+    Check.due("paysMost", x.paysMost(0), -4);
+    Check.due("seeded", x.seeded(5, 5, 1), 0);
+    Check.due("minutes", x.minutes(30), 0);
+    x.restore();
     Check.read(x, "l73;");
     Check.due("a new lane is empty", Check.lanes(x), "1 0 0 0 1 0 | 7 3 0 0 0 0 0 1 0 ");
   }

@@ -44,6 +44,8 @@ public final class NewsTest {
     Check.due("as wide as before", x.grows(10, 1, 5), 0);
     Check.due("wider", x.grows(10, 1, 6), 1);
     Check.due("wider below 0", x.grows(-10, 1, 6), 1);
+    Check.due("widest at time 30", x.grows(10, 3, 7), 0);
+    Check.due("wider at time 31", x.grows(11, 4, 7), 1);
     Check.due("held from early on", x.grows(99, 0, 20), 0);
     Check.due("none change over", x.grows(99, 0, 0), 0);
     Check.due("none more", x.grows(0, 5, 20), 0);

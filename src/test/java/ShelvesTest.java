@@ -126,6 +126,7 @@ public final class ShelvesTest {
     Check.numbers(x, 0, 1, 1, 2, 3, 4, 5);
     Check.numbers(x, 1, 1, 6, 7, 8);
     Check.numbers(x, 2, 2, 6, 7, 8);
+    x.row(3, 1, 5);
     x.keep(3, 1, 0);
     String before = Check.everything(x);
     int most = Integer.MAX_VALUE;

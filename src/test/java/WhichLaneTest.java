@@ -27,6 +27,9 @@ public final class WhichLaneTest {
     Check.due("which goes by what they take", left.which(0), 1);
     Check.due("best goes by what is left", left.best(0), 0);
     Check.due("regret", left.regret(0), 3);
+    LaneAtBorder hidden = Check.of("l4033;l00;");
+    Check.due("which is the first one", hidden.which(0), 0);
+    Check.due("regret of the first one", hidden.regret(0), 18 - 2);
   }
 
   private static void severalAlike() {
