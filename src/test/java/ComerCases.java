@@ -149,8 +149,11 @@ final class ComerCases {
     Check.due("no sort", wrapped.comers(1, 0, 0, 1), -13);
     wrapped.put(1, 1, -256);
     Check.due("sorts that wrapped around", wrapped.comers(1, 0, 0, 1), 7 + 8);
-    wrapped.row(1, 0, 0);
-    Check.due("what stood there does not matter", wrapped.comers(1, 0, 0, 1), 0);
+    Check.numbers(wrapped, 1, 0, 9, 9);
+    for (int n = 0; n < 2; n++) {
+      wrapped.row(1, 0, n);
+      Check.due("what stood there does not matter", wrapped.comers(1, 0, 0, 0), n);
+    }
     Check.says(20, "-1; of the ROW.");
     for (int d = -1; d <= 8; d++) {
       int shelf = d;

@@ -5,6 +5,7 @@ final class ImageCases {
   static void run() {
     imageAndRestore();
     imageOfNothing();
+    nothingIsLeftBehind();
     noImage();
     allButShelves();
     count();
@@ -60,6 +61,22 @@ final class ImageCases {
     full.minutes(60);
     full.restore();
     Check.due("five full lanes", Check.lanes(full), before);
+  }
+
+  /** Lanes that come in where others were before have nothing of them. */
+  private static void nothingIsLeftBehind() {
+    LaneAtBorder x = new LaneAtBorder();
+    Check.says(30, "RESTORED all is as it was then.");
+    x.image();
+    for (int time = 0; time < 3; time++) {
+      Check.due("full lanes come", Check.read(x, "l5933333333;l0133333333;m20;"), 3);
+      x.restore();
+    }
+    Check.sorts(x, 1, "00");
+    Check.due("a lane that is opened has room", x.opens(1, 0, 99), 1);
+    Check.read(x, "l00;");
+    Check.due("an empty lane", Check.lanes(x), "1 0 0 0 1 0 | 0 0 0 0 0 0 0 1 0 ");
+    Check.due("times in it", x.comes(0, 3), 8);
   }
 
   private static void noImage() {
