@@ -1,6 +1,7 @@
 /** Every promise of the document, sentence by sentence. */
 public final class PromisesTest {
   public static void main(String[] args) {
+    UseCases.run();
     BorderCases.run();
     MinuteCases.run();
     WhichCases.run();
